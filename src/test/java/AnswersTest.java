@@ -292,16 +292,15 @@ public final class AnswersTest {
 
     private static void spreadWithoutTheBound() {
         Check.at("promise 18, the bound");
-        SideVersions x = Check.store("sites 2;bound 1;whole;");
-        x.writes(0, 0, 0, 0, 1L);
-        x.writes(0, 1, 0, 0, 2L);
+        // with the bound, sending from 0 to 1 would drop the write there and be a beginning too
+        SideVersions x = Check.store("bound 1;whole;");
+        x.writes(0, 1, 0, 0, 1L);
+        x.writes(0, 0, 0, 0, 2L);
+        x.sends(1, 2, 0);
+        x.sends(0, 2, 0);
+        Check.due("write(0, 1, 1, 3)", x.write(0, 1, 1, 3), 1);
         Check.due("spread(0, 0)", x.spread(0, 0), 2);
-        // with the bound one transmission is not enough either, as site 0 keeps its own write
-        x.sends(0, 1, 0);
-        Check.due("row(1, 0, 0)", x.row(1, 0, 0), 1);
-        Check.due("write(0, 0, 1, 3)", x.write(0, 0, 1, 3), 1);
-        Check.due("spread(0, 0)", x.spread(0, 0), 1);
-        Check.due("spread(0, 1)", x.spread(0, 1), 10);
+        Check.due("spread(0, 1)", x.spread(0, 1), 20);
         // what one site has dropped is to go from all of them
         SideVersions y = equalRows();
         Check.due("spread(0, 0)", y.spread(0, 0), 3);
