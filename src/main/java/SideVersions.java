@@ -369,7 +369,6 @@ public final class SideVersions {
         }
 
         void rewind() {
-            start = 0;
             end = 0;
         }
 

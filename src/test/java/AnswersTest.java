@@ -251,6 +251,9 @@ public final class AnswersTest {
             Check.due("spread(1, 0)", x.spread(1, 0), sites - 1);
             Check.due("spread(1, 1)", x.spread(1, 1), 10);
             Check.due("spread(0, 0) of another key", x.spread(0, 0), 0);
+            x.writes(0, 0, 0, 1, 1L);
+            Check.due("spread(0, 0)", x.spread(0, 0), sites - 1);
+            Check.due("spread(0, 1)", x.spread(0, 1), 1);
             for (int site = 0; site < sites; site++) {
                 x.writes(0, site, 1, 0, 1L);
             }

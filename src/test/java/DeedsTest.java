@@ -16,6 +16,7 @@ public final class DeedsTest {
         merges();
         mergesErrors();
         mergesWhole();
+        mergesAfterMerges();
         mergesBits();
         mergesInStampOrder();
         rules();
@@ -43,6 +44,9 @@ public final class DeedsTest {
         x.writes(1, 2, 1, 1, 7L);
         Check.due("context(0, 2) after a write", x.context(0, 2), 2);
         Check.due("write(1, 2, 3, 2) unread", x.write(1, 2, 3, 2), 0);
+        // what has been seen once stays so
+        x.reads(2, 0, 1);
+        Check.due("write(1, 2, 1, 2) after a reading elsewhere", x.write(1, 2, 1, 2), 1);
         Check.due("reads(-1, 0, 0)", x.reads(-1, 0, 0), Check.BAD);
         Check.due("reads(4, 0, 0)", x.reads(4, 0, 0), Check.BAD);
         Check.due("reads(0, -1, 0)", x.reads(0, -1, 0), Check.BAD);
@@ -382,6 +386,12 @@ public final class DeedsTest {
         Check.due("merges(0, 0) with no room and too great", x.merges(0, 0), Check.FULL);
         x.rules(0, 1);
         Check.due("merges(0, 0) with no room", x.merges(0, 0), Check.FULL);
+        SideVersions last = Check.store("whole;");
+        for (int n = 1; n <= 39; n++) {
+            last.writes(0, 0, 0, 0, n);
+        }
+        last.rules(0, 0);
+        Check.due("merges(0, 0) with room for one", last.merges(0, 0), 40);
         SideVersions y = Check.store("whole;");
         for (int n = 1; n <= 40; n++) {
             y.writes(0, 0, 0, 0, n);
@@ -457,6 +467,8 @@ public final class DeedsTest {
         merged(0, 3, 1, 7, 12, 18);
         merged(0, 3, 5, 0, 5);
         merged(0, 3, 5, -5, 0);
+        merged(0, 3, 1, 1, 6);
+        merged(0, 3, 1, 6, 1);
         merged(0, 3, 0, 0, 0);
         merged(0, 3, 0, 0, 0, 0);
         merged(0, 3, 2, LEAST, 6, 18, 12);
@@ -474,6 +486,33 @@ public final class DeedsTest {
         // what is 2 to the power of 63 only in between does no harm
         merged(0, 3, 4, LEAST, LEAST, 4);
         merged(0, 3, 4, 0, LEAST, 4);
+    }
+
+    private static void mergesAfterMerges() {
+        Check.at("promise 9, one after the other");
+        SideVersions x = Check.store("whole;bits;");
+        x.writes(0, 0, 0, 0, GREATEST);
+        x.writes(0, 0, 0, 0, 5L);
+        x.rules(0, 2);
+        Check.due("merges(0, 0)", x.merges(0, 0), Check.OVER);
+        x.rules(0, 0);
+        Check.due("merges(0, 0) by another rule", x.merges(0, 0), 3);
+        Check.due("sibling(0, 0, 0, 3)", x.sibling(0, 0, 0, 3), GREATEST);
+        x.writes(0, 1, 0, 0, 2L);
+        x.writes(0, 1, 0, 0, 3L);
+        x.rules(0, 2);
+        Check.due("merges(1, 0)", x.merges(1, 0), 3);
+        Check.due("sibling(1, 0, 0, 3)", x.sibling(1, 0, 0, 3), 5);
+        x.writes(0, 0, 1, 1, 6L);
+        x.writes(0, 0, 1, 1, 3L);
+        x.rules(1, 3);
+        Check.due("merges(0, 1)", x.merges(0, 1), 3);
+        Check.due("sibling(0, 1, 0, 3)", x.sibling(0, 1, 0, 3), 2);
+        x.writes(0, 1, 1, 1, 6L);
+        x.writes(0, 1, 1, 1, 16L);
+        x.rules(1, 2);
+        Check.due("merges(1, 1)", x.merges(1, 1), 3);
+        Check.due("sibling(1, 1, 0, 3)", x.sibling(1, 1, 0, 3), 22);
     }
 
     private static void mergesBits() {

@@ -123,6 +123,10 @@ public final class TextTest {
         fault("sites 00;", 6);
         fault("sites 10;", 6);
         fault("sites 33;", 6);
+        fault("sites 39;", 6);
+        fault("sites 30;", 6);
+        fault("sites 31;", 6);
+        fault("sites 9;", 6);
         fault("sites 4294967299;", 6);
         fault("bound 18446744073709551617;", 6);
         fault("sites 3;sites 3;", 8);
@@ -150,6 +154,11 @@ public final class TextTest {
         fault("whole; 3", 7);
         fault("wholes;", 0);
         fault("whol;", 0);
+        fault("xhole;", 0);
+        fault("xits;", 0);
+        fault("bita;", 0);
+        fault("bitsz;", 0);
+        fault("bitsa;", 0);
         fault("wholebits;", 0);
         fault("site 3;", 0);
         fault("sitesx3;", 0);
