@@ -291,6 +291,14 @@ public final class AnswersTest {
         y.writes(0, 3, 0, 0, 1L);
         Check.due("spread(0, 0)", y.spread(0, 0), 5);
         Check.due("spread(0, 1)", y.spread(0, 1), 12);
+        // what site 0 has replaced stays so when site 1, which never had it, adds its own
+        SideVersions z = Check.store("whole;");
+        z.writes(0, 0, 0, 0, 1L);
+        z.reads(0, 0, 0);
+        z.writes(0, 0, 0, 0, 2L);
+        z.writes(0, 1, 0, 0, 3L);
+        Check.due("spread(0, 0)", z.spread(0, 0), 3);
+        Check.due("spread(0, 1)", z.spread(0, 1), 1);
     }
 
     private static void spreadWithoutTheBound() {
