@@ -1,7 +1,11 @@
+import java.util.ArrayList;
+import java.util.List;
+
 /** Long runs of calls whose every answer is compared with that of the plain model. */
 public final class ModelTest {
-    private static final int RUNS = 60;
-    private static final int CALLS = 400;
+    private static final int RUNS = 90;
+    private static final int DEEDS = 300;
+    private static final int LAST_CALL = 512;
     private static final long[] VALUES = {0, 1, 2, 6, 12, 35, -1, -6, -12, Long.MAX_VALUE, Long.MIN_VALUE,
         Long.MIN_VALUE + 1, Long.MAX_VALUE - 1, 1L << 62, 77};
 
@@ -18,123 +22,183 @@ public final class ModelTest {
         return next(40) == 0 ? next(2) == 0 ? -1 : size : next(Math.max(size, 1));
     }
 
+    /** A call, and what the model has answered to it. */
+    private static final class Asked {
+        final String name;
+        final long want;
+        final Twins.Call call;
+
+        Asked(String name, long want, Twins.Call call) {
+            this.name = name;
+            this.want = want;
+            this.call = call;
+        }
+
+        void of(SideVersions x) {
+            Check.due(name, call.on(x), want);
+        }
+    }
+
+    private final Model m;
+    /** In every fourth run nearly all is written at one site, so that its room comes to its end. */
+    private final boolean crowded;
+    private final List<Asked> deeds = new ArrayList<>();
+    private final List<Asked> questions = new ArrayList<>();
+
+    private ModelTest(Model m, boolean crowded) {
+        this.m = m;
+        this.crowded = crowded;
+    }
+
     public static void main(String[] args) {
         for (int run = 1; run <= RUNS; run++) {
             state = run;
-            run(run);
+            int[] kinds = new int[1 + next(run % 3 == 0 ? 4 : 2)];
+            for (int k = 0; k < kinds.length; k++) {
+                kinds[k] = next(2);
+            }
+            Model m = new Model(2 + next(3), 1 + next(6), 1 + next(4), kinds);
+            Check.at("run " + run + " of " + m.text());
+            new ModelTest(m, run % 4 == 0).run();
         }
         Check.finish();
     }
 
-    private static void run(int run) {
-        int[] kinds = new int[1 + next(run % 3 == 0 ? 4 : 2)];
-        for (int k = 0; k < kinds.length; k++) {
-            kinds[k] = next(2);
-        }
-        Model m = new Model(2 + next(3), 1 + next(6), 1 + next(4), kinds);
+    private void run() {
         SideVersions x = Check.store(m.text());
-        Check.at("run " + run + " of " + m.text());
-        for (int i = 0; i < CALLS; i++) {
-            deed(m, x);
-            if (i % 7 == 0) {
-                compareSome(m, x);
+        for (int i = 1; i <= DEEDS; i++) {
+            Asked deed = deed();
+            deed.of(x);
+            deeds.add(deed);
+            if (i % 10 == 0) {
+                spread(next(m.kinds.length));
+                questions.forEach(q -> q.of(x));
+                questions.clear();
             }
-            if (i % 11 == 0) {
-                compareSpread(m, x, next(kinds.length));
-            }
-            if (i % 40 == 39) {
-                compareAll(m, x);
+            if (i == 30 || i == 100 || i == DEEDS) {
+                askAll();
             }
         }
     }
 
-    private static void deed(Model m, SideVersions x) {
+    private Asked deed() {
         int client = near(4);
-        int site = near(m.sites);
-        int key = near(m.kinds.length);
+        int site = crowded && next(3) > 0 ? 1 : near(m.sites);
+        int key = crowded && next(3) > 0 ? 0 : near(m.kinds.length);
         int other = near(m.sites);
         String args = "(" + client + ", " + site + ", " + key + ", " + other + ")";
         switch (next(12)) {
             case 0: case 1: case 2:
-                Check.due("reads" + args, x.reads(client, site, key), m.reads(client, site, key));
-                break;
+                return new Asked("reads" + args, m.reads(client, site, key), x -> x.reads(client, site, key));
             case 3: case 4: case 5: case 6:
-                int kind = next(20) == 0 || key < 0 || key >= m.kinds.length ? near(2) : m.kinds[key];
-                long value = VALUES[next(VALUES.length)];
-                value = kind == 1 && value < 0 && next(9) > 0 ? value & Long.MAX_VALUE : value;
-                Check.due("writes" + args, x.writes(client, site, key, kind, value), m.writes(client, site, key, kind, value));
-                break;
+                return write(client, site, key);
             case 7: case 8: case 9:
-                Check.due("sends" + args, x.sends(site, other, key), m.sends(site, other, key));
-                break;
+                return new Asked("sends" + args, m.sends(site, other, key), x -> x.sends(site, other, key));
             case 10:
-                Check.due("merges" + args, x.merges(site, key), m.merges(site, key));
-                break;
+                return new Asked("merges" + args, m.merges(site, key), x -> x.merges(site, key));
             default:
                 if (next(2) == 0) {
-                    Check.due("blinds" + args, x.blinds(client), m.blinds(client));
-                } else {
-                    int rule = near(5);
-                    Check.due("rules" + args, x.rules(key, rule), m.rules(key, rule));
+                    return new Asked("blinds" + args, m.blinds(client), x -> x.blinds(client));
                 }
+                int rule = near(5);
+                return new Asked("rules" + args, m.rules(key, rule), x -> x.rules(key, rule));
         }
     }
 
-    private static void compareSpread(Model m, SideVersions x, int key) {
+    private Asked write(int client, int site, int key) {
+        int kind = next(20) == 0 || key < 0 || key >= m.kinds.length ? near(2) : m.kinds[key];
+        long any = VALUES[next(VALUES.length)];
+        long value = kind == 1 && any < 0 && next(9) > 0 ? any & Long.MAX_VALUE : any;
+        String name = "writes(" + client + ", " + site + ", " + key + ", " + kind + ", " + value + ")";
+        return new Asked(name, m.writes(client, site, key, kind, value), x -> x.writes(client, site, key, kind, value));
+    }
+
+    private void ask(String name, long want, Twins.Call call) {
+        questions.add(new Asked(name, want, call));
+    }
+
+    private void spread(int key) {
         int[] spread = m.spreads(key);
-        Check.due("spread(" + key + ", 0)", x.spread(key, 0), spread[0]);
-        Check.due("spread(" + key + ", 1)", x.spread(key, 1), spread[1]);
+        ask("spread(" + key + ", 0)", spread[0], x -> x.spread(key, 0));
+        ask("spread(" + key + ", 1)", spread[1], x -> x.spread(key, 1));
     }
 
-    private static void compareSome(Model m, SideVersions x) {
-        for (int key = -1; key <= m.kinds.length; key++) {
-            for (int what = -1; what <= 7; what++) {
-                Check.due("tally(" + key + ", " + what + ")", x.tally(key, what), m.tally(key, what));
-            }
-        }
-        for (int client = -1; client <= 4; client++) {
-            for (int what = -2; what <= 9; what++) {
-                Check.due("context(" + client + ", " + what + ")", x.context(client, what), m.context(client, what));
-            }
-        }
-        for (int i = -1; i <= 3; i++) {
-            for (int what = -1; what <= 2; what++) {
-                Check.due("rule(" + i + ", " + what + ")", x.rule(i, what), m.rule(i, what));
-            }
-        }
-    }
-
-    private static void compareAll(Model m, SideVersions x) {
-        for (int what = -1; what <= 6; what++) {
-            Check.due("count(" + what + ")", x.count(what), m.count(what));
-        }
+    /** Asks all that can be asked, in parts, each of a new object with the same deeds. */
+    private void askAll() {
+        askOfAll();
         for (int key = -1; key <= m.kinds.length; key++) {
             for (int site = -1; site <= m.sites; site++) {
-                compareSite(m, x, key, site);
+                askOfSite(key, site);
+            }
+        }
+        int part = LAST_CALL - m.text().length() - 1 - deeds.size();
+        for (int from = 0; from < questions.size(); from += part) {
+            SideVersions x = Check.store(m.text());
+            deeds.forEach(deed -> deed.call.on(x));
+            questions.subList(from, Math.min(from + part, questions.size())).forEach(q -> q.of(x));
+        }
+        questions.clear();
+    }
+
+    private void askOfAll() {
+        for (int w = -1; w <= 6; w++) {
+            int what = w;
+            ask("count(" + w + ")", m.count(w), x -> x.count(what));
+        }
+        for (int c = -1; c <= 4; c++) {
+            for (int w = -2; w <= 9; w++) {
+                int client = c, what = w;
+                ask("context(" + c + ", " + w + ")", m.context(c, w), x -> x.context(client, what));
+            }
+        }
+        for (int n = -1; n <= 3; n++) {
+            for (int w = -1; w <= 2; w++) {
+                int i = n, what = w;
+                ask("rule(" + n + ", " + w + ")", m.rule(n, w), x -> x.rule(i, what));
+            }
+        }
+        for (int k = -1; k <= m.kinds.length; k++) {
+            for (int w = -1; w <= 7; w++) {
+                int key = k, what = w;
+                ask("tally(" + k + ", " + w + ")", m.tally(k, w), x -> x.tally(key, what));
             }
         }
     }
 
-    private static void compareSite(Model m, SideVersions x, int key, int site) {
+    private void askOfSite(int key, int site) {
         String at = "(" + site + ", " + key + ", ";
-        Check.due("behind" + at, x.behind(site, key), m.behind(site, key));
-        for (int s = -1; s <= m.sites; s++) {
-            Check.due("row" + at + s, x.row(site, key, s), m.row(site, key, s));
-            Check.due("alike" + at + s, x.alike(site, s, key), m.alike(site, s, key));
+        ask("behind" + at, m.behind(site, key), x -> x.behind(site, key));
+        for (int o = -1; o <= m.sites; o++) {
+            int s = o;
+            ask("row" + at + s, m.row(site, key, s), x -> x.row(site, key, s));
+            ask("alike" + at + s, m.alike(site, s, key), x -> x.alike(site, s, key));
         }
-        for (int i = -1; i <= 7; i++) {
-            for (int what = -1; what <= 4; what++) {
-                Check.due("sibling" + at + i + ", " + what, x.sibling(site, key, i, what), m.sibling(site, key, i, what));
+        for (int n = -1; n <= 7; n++) {
+            for (int w = -1; w <= 4; w++) {
+                int i = n, what = w;
+                ask("sibling" + at + i + ", " + what, m.sibling(site, key, i, what), x -> x.sibling(site, key, i, what));
             }
         }
-        for (int n = -1; n <= 42; n++) {
-            for (int what = -1; what <= 8; what++) {
-                Check.due("write" + at + n + ", " + what, x.write(key, site, n, what), m.write(key, site, n, what));
-            }
-            int other = near(m.sites);
-            int number = next(12);
-            for (int way = -1; way <= 2; way++) {
-                Check.due("ahead" + at + n, x.ahead(key, site, n, other, number, way), m.ahead(key, site, n, other, number, way));
+        int last = Math.max(m.row(site, key, site), 0);
+        for (int n = -1; n <= last + 1; n++) {
+            askOfWrite(key, site, n);
+        }
+        askOfWrite(key, site, 41);
+    }
+
+    private void askOfWrite(int key, int site, int n) {
+        String dot = "(" + key + ", " + site + ", " + n + ", ";
+        for (int w = -1; w <= 8; w++) {
+            int what = w;
+            ask("write" + dot + what, m.write(key, site, n, what), x -> x.write(key, site, n, what));
+        }
+        for (int b = -1; b <= m.sites; b++) {
+            int other = b;
+            int number = next(Math.max(m.row(b, key, b), 0) + 2);
+            for (int w = -1; w <= 2; w++) {
+                int way = w;
+                String name = "ahead" + dot + other + ", " + number + ", " + way;
+                ask(name, m.ahead(key, site, n, other, number, way), x -> x.ahead(key, site, n, other, number, way));
             }
         }
     }
