@@ -22,8 +22,9 @@ public final class FormTest {
         "int rule(int,int)", "int tally(int,int)", "int count(int)"));
     private static final Set<String> CONSTANTS = new TreeSet<>(List.of("BAD", "STATE", "FULL", "UNLIKE", "OVER", "NONE"));
     private static final List<String> FORBIDDEN = List.of("throw", "throws", "try", "catch", "finally", "synchronized",
-        "assert", "instanceof", "import", "package", "native", "volatile", "transient", "enum", "record", "interface",
-        "System", "Object", "Thread", "Random", "equals", "hashCode", "toString", "double", "float", "\\w+Exact");
+        "assert", "package", "native", "volatile", "Object", "Thread", "Random", "hashCode", "\\w+Exact");
+    private static final Set<String> MADE = Set.of("int", "long", "short", "byte", "char", "boolean", "double", "float",
+        "String", "StringBuilder", "ArrayList");
 
     public static void main(String[] args) throws Exception {
         Check.at("the face");
@@ -35,11 +36,12 @@ public final class FormTest {
 
     private static void face() {
         Class<?> type = SideVersions.class;
-        Check.due("public and final", type.getModifiers() & (Modifier.PUBLIC | Modifier.FINAL), Modifier.PUBLIC | Modifier.FINAL);
+        int modifiersDue = Modifier.PUBLIC | Modifier.FINAL;
+        Check.due("public and final", type.getModifiers() & modifiersDue, modifiersDue);
         Set<String> methods = new TreeSet<>();
         Set<String> names = new TreeSet<>();
         for (Method method : type.getDeclaredMethods()) {
-            if (!Modifier.isPrivate(method.getModifiers())) {
+            if (!Modifier.isPrivate(method.getModifiers()) && !method.isSynthetic()) {
                 methods.add(signature(method));
                 names.add(method.getName());
             }
@@ -51,24 +53,36 @@ public final class FormTest {
                 constants.add(field.getName());
                 Check.due(field + " is a public constant", field.getModifiers(), Modifier.PUBLIC | Modifier.STATIC | Modifier.FINAL);
             }
-            noStaticState(field);
         }
         same("constants", constants, CONSTANTS);
         Constructor<?>[] constructors = type.getDeclaredConstructors();
         Check.due("constructors", constructors.length, 1);
         Check.due("its parameters", constructors[0].getParameterCount(), 0);
+        members(type, names);
         for (Class<?> inside : type.getDeclaredClasses()) {
             int modifiers = inside.getModifiers();
             Check.due(inside + " is static", Modifier.isStatic(modifiers) ? 1 : 0, 1);
             Check.due(inside + " is not seen outside", modifiers & (Modifier.PUBLIC | Modifier.PROTECTED), 0);
-            for (Method method : inside.getDeclaredMethods()) {
-                Check.due(method + " has no name of the face", names.contains(method.getName()) ? 1 : 0, 0);
-            }
-            for (Field field : inside.getDeclaredFields()) {
-                noStaticState(field);
+            members(inside, names);
+        }
+        Check.due("some twelve classes", Math.max(type.getDeclaredClasses().length + 1, 14), 14);
+    }
+
+    private static void members(Class<?> type, Set<String> names) {
+        int fields = 0;
+        for (Method method : type.getDeclaredMethods()) {
+            boolean isPrivate = Modifier.isPrivate(method.getModifiers());
+            Check.due(method + " has no name of the face", isPrivate && names.contains(method.getName()) ? 1 : 0, 0);
+            Check.due(method + " has at most seven parameters", Math.max(method.getParameterCount(), 7), 7);
+        }
+        for (Field field : type.getDeclaredFields()) {
+            if (Modifier.isStatic(field.getModifiers())) {
+                Check.due(field + " is final", Modifier.isFinal(field.getModifiers()) ? 1 : 0, 1);
+            } else {
+                fields++;
             }
         }
-        Check.due("at most twelve classes", Math.max(type.getDeclaredClasses().length + 1, 12), 12);
+        Check.due(type + " has some twenty fields", Math.max(fields, 22), 22);
     }
 
     private static String signature(Method method) {
@@ -83,13 +97,6 @@ public final class FormTest {
         Check.due(what + " " + got, got.equals(want) ? 1 : 0, 1);
     }
 
-    private static void noStaticState(Field field) {
-        if (Modifier.isStatic(field.getModifiers())) {
-            Check.due(field + " is final", Modifier.isFinal(field.getModifiers()) ? 1 : 0, 1);
-            Check.due(field + " is a plain constant", field.getType().isPrimitive() ? 1 : 0, 1);
-        }
-    }
-
     private static void language(String source) {
         String code = source.replaceAll("(?s)/\\*.*?\\*/", "").replaceAll("//[^\n]*", "").replaceAll("\"[^\"\n]*\"", "\"\"");
         for (String word : FORBIDDEN) {
@@ -98,14 +105,13 @@ public final class FormTest {
         Check.due("lambdas and method references", find(code, "->|::"), 0);
         Check.due("joining texts", find(code, "\"\\s*\\+|\\+\\s*\""), 0);
         Check.due("static initialisers", find(code, "static\\s*\\{"), 0);
-        Matcher library = Pattern.compile("\\b(Integer|Long|Math)\\.(\\w+)").matcher(code);
-        while (library.find()) {
-            Check.due(library.group(), Set.of("bitCount", "max", "min").contains(library.group(2)) ? 1 : 0, 1);
-        }
+        Check.due("of System but arraycopy", find(code, "\\bSystem\\.(?!arraycopy\\b)"), 0);
+        Check.due("of Arrays but copies and fill", find(code, "\\bArrays\\.(?!(copyOf|copyOfRange|fill)\\b)"), 0);
+        Check.due("imports but of java.util", find(code, "\\bimport (?!java\\.util\\.)"), 0);
         Matcher made = Pattern.compile("\\bnew\\s+(\\w+)").matcher(code);
         while (made.find()) {
-            boolean own = code.contains("class " + made.group(1) + " ");
-            Check.due(made.group() + " is listed", own || Set.of("int", "long").contains(made.group(1)) ? 1 : 0, 1);
+            boolean own = code.contains("class " + made.group(1)) || code.contains("record " + made.group(1));
+            Check.due(made.group() + " is listed", own || MADE.contains(made.group(1)) ? 1 : 0, 1);
         }
     }
 

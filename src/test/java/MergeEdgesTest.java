@@ -4,7 +4,8 @@ import java.math.BigInteger;
 public final class MergeEdgesTest {
     private static final long LEAST = Long.MIN_VALUE;
     private static final long GREATEST = Long.MAX_VALUE;
-    private static final long[] WHOLES = {LEAST, LEAST + 1, LEAST / 2, -12, -6, -1, 0, 1, 8, 12, 1L << 62, GREATEST - 1, GREATEST};
+    private static final long[] WHOLES = {LEAST, LEAST + 1, LEAST / 2, -12, -6, -1, 0, 1, 8, 12, 1L << 62, GREATEST - 1,
+        GREATEST};
     private static final long[] SETS = {0, 1, 2, 3, 6, 8, 1L << 32, 1L << 62, GREATEST - 1, GREATEST};
 
     public static void main(String[] args) {

@@ -2,8 +2,8 @@
 public final class RoughTest {
     private static final int[] WILD = {Integer.MIN_VALUE, -1000, -2, -1, 0, 1, 2, 3, 4, 5, 6, 7, 8, 39, 40, 41, 64, 100,
         255, 256, 1 << 30, Integer.MAX_VALUE};
-    private static final String[] TEXTS = {"sites 2;whole;", "sites 4;bound 6;bits;whole;bits;whole;", "", "bound 1;limit 1;whole;", "x"};
-
+    private static final String[] TEXTS = {"sites 2;whole;", "sites 4;bound 6;bits;whole;bits;whole;", "",
+        "bound 1;limit 1;whole;", "x"};
     private static final int LAST_CALL = 512;
 
     private static long state;

@@ -397,14 +397,16 @@ public final class TextEdgesTest {
         x.writes(3, 2, 1, 1, 4L);
         x.merges(2, 1);
         x.merges(0, 0);
-        x.reads(0, 1, 0);
-        x.reads(1, 2, 1);
+        for (int client = 0; client < 4; client++) {
+            x.reads(client, client, client % 2);
+        }
     }
 
     private static void everythingBeginsAnew() {
         Check.at("promise 4: everything begins anew");
         Twins twins = new Twins(4, 2, 1, 2, 3, 4, 5);
-        for (String text : List.of("", "whole;", "bits;whole;", "sites 2;limit 2;bits;bits;", "sites 4;bound 2;limit 1;whole;bits;")) {
+        String[] texts = {"", "whole;", "bits;whole;", "sites 2;limit 2;bits;bits;", "sites 4;bound 2;limit 1;whole;bits;"};
+        for (String text : texts) {
             twins.same("tells() of '" + text + "' after other things", x -> {
                 fillStore(x);
                 Check.type(x, text);
@@ -419,7 +421,8 @@ public final class TextEdgesTest {
     private static void aFaultChangesNothing() {
         Check.at("promise 4: if it has a fault, nothing changes");
         Twins twins = new Twins(4, 2, 1, 2, 3, 4, 5);
-        for (String text : List.of("x", "whole", "sites 2;bound 1;limit 4;bits;bits;whole;bits;?", "sites 3;whole;sites 3;", "bound 7;")) {
+        String[] texts = {"x", "whole", "sites 2;bound 1;limit 4;bits;bits;whole;bits;?", "sites 3;whole;sites 3;", "bound 7;"};
+        for (String text : texts) {
             Twins.Run typed = x -> {
                 fillStore(x);
                 Check.type(x, text);

@@ -26,7 +26,7 @@ final class Twins {
         }
     }
 
-    private static final int PART = 200;
+    private static final int PART = 150;
 
     private final int sites;
     private final int keys;
@@ -136,12 +136,23 @@ final class Twins {
                 then("tally(" + k + ", " + w + ")", x -> x.tally(key, what));
             }
         }
+        for (int k = 0; k < keys; k++) {
+            for (int s = 0; s < sites; s++) {
+                int key = k, site = s;
+                for (int w = 2; w <= 7; w++) {
+                    int what = w;
+                    then("write of the first, " + w, x -> x.write(key, site, 1, what));
+                    then("write of the last, " + w, x -> x.write(key, site, x.row(site, key, site), what));
+                }
+            }
+        }
         for (int c = 0; c < 4; c++) {
             int client = c;
             then("blinds(" + c + ")", x -> x.blinds(client));
         }
-        then("type(59)", x -> x.type(59));
         then("tells()", x -> x.tells());
+        then("type(59)", x -> x.type(59));
+        then("tells() again", x -> x.tells());
         then("count(1)", x -> x.count(1));
         then("clear()", x -> x.clear());
     }
