@@ -178,6 +178,8 @@ public final class MergeEdgesTest {
         Check.due("the same values in another order", merged(2, 1, LEAST, GREATEST), 0);
         Check.due("over by the last one", merged(2, 0, 0, GREATEST, 1), Check.OVER);
         Check.due("by far", merged(2, LEAST, LEAST, LEAST, LEAST), Check.OVER);
+        // the sum of these two has every bit turned
+        Check.due("a third of all, twice", merged(2, 0x5555555555555555L, 0x5555555555555555L), Check.OVER);
         Check.due("all at an edge, in turn", merged(2, GREATEST, LEAST, GREATEST), GREATEST - 1);
     }
 
