@@ -451,7 +451,7 @@ public final class SideVersions {
                     putUsual();
                     return NO_FAULT;
                 }
-                if (!takesItem(text)) {
+                if (!takesWords(text) || !takesSemicolon(text)) {
                     return text.start;
                 }
                 items++;
@@ -477,36 +477,36 @@ public final class SideVersions {
             limit = limit == NOT_GIVEN ? USUAL_LIMIT : limit;
         }
 
-        /** Whether the item whose first token the text is at may stand; if not, the text stays at its fault. */
-        private boolean takesItem(Text text) {
+        /** Whether the item that begins here may stand, but for its ; - if not, the text stays at its fault. */
+        private boolean takesWords(Text text) {
             if (text.isWord("whole")) {
-                return takesKey(text, WHOLE);
+                return takesKey(WHOLE);
             }
             if (text.isWord("bits")) {
-                return takesKey(text, BITS);
+                return takesKey(BITS);
             }
             if (text.isWord("sites") && sites == NOT_GIVEN) {
                 sites = takenNumber(text, 2, MOST_SITES);
-                return sites != NOT_GIVEN && takesSemicolon(text);
+                return sites != NOT_GIVEN;
             }
             if (text.isWord("bound") && bound == NOT_GIVEN) {
                 bound = takenNumber(text, 1, 6);
-                return bound != NOT_GIVEN && takesSemicolon(text);
+                return bound != NOT_GIVEN;
             }
             if (text.isWord("limit") && limit == NOT_GIVEN) {
                 limit = takenNumber(text, 1, 4);
-                return limit != NOT_GIVEN && takesSemicolon(text);
+                return limit != NOT_GIVEN;
             }
             return false;
         }
 
-        private boolean takesKey(Text text, int kind) {
+        private boolean takesKey(int kind) {
             if (keyTotal >= kinds.length) {
                 return false;
             }
             kinds[keyTotal] = kind;
             keyTotal++;
-            return takesSemicolon(text);
+            return true;
         }
 
         private int takenNumber(Text text, int lowest, int highest) {
